@@ -26,6 +26,8 @@ public final class OutOfPawn {
     private static final int MOST_DIGITS = 5;
     private static final int CODE_STEPS = 512;
     private static final int STACK_CELLS = 64;
+    private static final int MOST_AMOUNT = 9999;
+    private static final int MOST_RUNS = 999;
     private static final int NEVER_LEFT = 9999;
     private static final int MOST_TIMES = 100;
     private static final int SURE_WEEKS = 10;
@@ -415,11 +417,8 @@ public final class OutOfPawn {
             case 0: return life.coin;
             case 1: return life.home;
             case 2: return life.brokeWeek;
-            default: return loss();
+            default: break;
         }
-    }
-
-    private int loss() {
         int most = readyPlans().most;
         return life.brokeWeek != NONE || most < 0 ? NO_LOSS : most - life.coin;
     }
@@ -594,7 +593,7 @@ public final class OutOfPawn {
     /** Sums and tests of one text as steps that work on a stack, each sum or test up to its STOP. */
     static final class Code {
         private static final int KIND_SHIFT = 17;
-        private static final int NUMBER_MASK = (1 << KIND_SHIFT) - 1;
+        private static final int NUMBER_MASK = 131071;
 
         final int[] steps;
         int length;
@@ -654,11 +653,7 @@ public final class OutOfPawn {
             words[IN] = Integer.bitCount(in);
         }
 
-        /** A test answers 1 or 0; where there is none (start NONE), it holds. */
-        boolean holdsAt(Code code, int start) {
-            return start == NONE || valueAt(code, start) != 0L;
-        }
-
+        /** The value of a sum, or 1 or 0 of a test. */
         long valueAt(Code code, int start) {
             int depth = 0;
             for (int i = start; i < CODE_STEPS; i++) {
@@ -738,7 +733,7 @@ public final class OutOfPawn {
         int holding(Code code, Scene scene) {
             int holding = 0;
             for (int i = 0; i < count && i < BOOK_CLAUSES; i++) {
-                if (scene.holdsAt(code, tests[i])) {
+                if (tests[i] == NONE || scene.valueAt(code, tests[i]) != 0L) {
                     holding |= 1 << i;
                 }
             }
@@ -901,7 +896,7 @@ public final class OutOfPawn {
 
         long valueIn(Scene scene) {
             for (int i = 0; i < count && i < RULE_CLAUSES; i++) {
-                if (scene.holdsAt(code, tests[i])) {
+                if (tests[i] == NONE || scene.valueAt(code, tests[i]) != 0L) {
                     return scene.valueAt(code, sums[i]);
                 }
             }
@@ -947,27 +942,15 @@ public final class OutOfPawn {
     static final class Tokens {
         private static final int BLANK = 32;
 
-        private final int[] kinds;
-        private final int[] values;
-        private final int[] places;
+        final int[] kinds;
+        final int[] values;
+        final int[] places;
         private int count;
 
         Tokens() {
             kinds = new int[TAPE_BYTES + 1];
             values = new int[TAPE_BYTES + 1];
             places = new int[TAPE_BYTES + 1];
-        }
-
-        int kindAt(int i) {
-            return i >= 0 && i < count ? kinds[i] : END;
-        }
-
-        int valueAt(int i) {
-            return i >= 0 && i < count ? values[i] : 0;
-        }
-
-        int placeAt(int i) {
-            return i >= 0 && i < count ? places[i] : 0;
         }
 
         void split(int[] text, int length) {
@@ -1005,9 +988,13 @@ public final class OutOfPawn {
                 add(isLetter ? LETTER : wordIn(text, place, behind), isLetter ? sign - 'a' : 0, place);
                 return behind;
             }
-            boolean orEqual = (sign == '<' || sign == '>') && place + 1 < length && text[place + 1] == '=';
-            add(orEqual ? sign == '<' ? AT_MOST : AT_LEAST : signKind(sign), 0, place);
-            return orEqual ? place + 2 : place + 1;
+            boolean equalBehind = place + 1 < length && place + 1 < text.length && text[place + 1] == '=';
+            if (equalBehind && (sign == '<' || sign == '>')) {
+                add(sign == '<' ? AT_MOST : AT_LEAST, 0, place);
+                return place + 2;
+            }
+            add(signKind(sign), 0, place);
+            return place + 1;
         }
 
         private static int behindRun(int[] text, int length, int place, int lowest, int highest) {
@@ -1073,6 +1060,9 @@ public final class OutOfPawn {
     static final class Reader {
         private final Tokens tokens;
         private int at;
+        private int kind;
+        private int value;
+        private int place;
         private int fault;
         private int pieces;
         private int told;
@@ -1085,7 +1075,8 @@ public final class OutOfPawn {
 
         private void open(int[] text, int length, Code into, boolean isRule) {
             tokens.split(text, length);
-            at = 0;
+            at = NONE;
+            next();
             fault = 0;
             pieces = 0;
             told = 0;
@@ -1093,18 +1084,28 @@ public final class OutOfPawn {
             ofRule = isRule;
         }
 
+        /** Goes on to the next token; behind the last one it stays at the END. */
+        private void next() {
+            if (at == NONE || kind != END && at < TAPE_BYTES) {
+                at++;
+                kind = tokens.kinds[at];
+                value = tokens.values[at];
+                place = tokens.places[at];
+            }
+        }
+
         int readBook(int[] text, int length, Book book) {
             book.clear();
             open(text, length, book.code, false);
             for (int clause = 0; clause <= BOOK_CLAUSES && fault == 0; clause++) {
-                int kind = startClause(clause >= BOOK_CLAUSES);
-                switch (kind) {
+                int clauseKind = startClause(clause >= BOOK_CLAUSES);
+                switch (clauseKind) {
                     case THING: readThing(book); break;
                     case SET: readSet(book); break;
                     case NEEDS: readNeed(book); break;
                     case LUCK: book.luck = number(0, THOUSAND); break;
                     case COUSIN: readCousin(book); break;
-                    case COIN: book.coin = number(0, NEVER_LEFT); break;
+                    case COIN: book.coin = number(0, MOST_AMOUNT); break;
                     case WEEKS: book.weeks = number(1, MOST_WEEKS); break;
                     default: break;
                 }
@@ -1119,11 +1120,11 @@ public final class OutOfPawn {
             rule.clear();
             open(text, length, rule.code, true);
             for (int clause = 0; clause <= RULE_CLAUSES && fault == 0; clause++) {
-                int kind = startClause(clause >= RULE_CLAUSES);
-                if (kind == LIKE) {
+                int clauseKind = startClause(clause >= RULE_CLAUSES);
+                if (clauseKind == LIKE) {
                     readLike(rule);
-                } else if (kind == KEEP) {
-                    rule.keep = number(0, NEVER_LEFT);
+                } else if (clauseKind == KEEP) {
+                    rule.keep = number(0, MOST_AMOUNT);
                 }
                 if (isAtEnd()) {
                     break;
@@ -1134,35 +1135,35 @@ public final class OutOfPawn {
 
         /** The kind of the clause that starts here, which is gone past; NONE with a fault. */
         private int startClause(boolean tooMany) {
-            int kind = tokens.kindAt(at);
-            if (!isClause(kind)) {
+            int clauseKind = kind;
+            if (!isClause()) {
                 fail(MISPLACED);
                 return NONE;
             }
-            if (tooMany || (told >> kind & 1) != 0) {
+            if (tooMany || (told >> clauseKind & 1) != 0) {
                 fail(CLAUSE_TOO_MANY);
                 return NONE;
             }
-            if (isOnceOnly(kind)) {
-                told |= 1 << kind;
+            if (isOnceOnly()) {
+                told |= 1 << clauseKind;
             }
-            at++;
-            return kind;
+            next();
+            return clauseKind;
         }
 
-        private boolean isClause(int kind) {
+        private boolean isClause() {
             if (ofRule) {
                 return kind == LIKE || kind == KEEP;
             }
-            return kind == THING || kind == SET || kind == NEEDS || kind != KEEP && isOnceOnly(kind);
+            return kind == THING || kind == SET || kind == NEEDS || kind != KEEP && isOnceOnly();
         }
 
-        private static boolean isOnceOnly(int kind) {
+        private boolean isOnceOnly() {
             return kind == LUCK || kind == COUSIN || kind == COIN || kind == WEEKS || kind == KEEP;
         }
 
         private boolean isAtEnd() {
-            if (fault != 0 || tokens.kindAt(at) == END) {
+            if (fault != 0 || kind == END) {
                 return true;
             }
             expect(SEMICOLON);
@@ -1170,74 +1171,77 @@ public final class OutOfPawn {
         }
 
         private void readThing(Book book) {
-            if (tokens.kindAt(at) != LETTER) {
+            if (kind != LETTER) {
                 fail(MISPLACED);
                 return;
             }
-            int thing = tokens.valueAt(at);
+            int thing = value;
             if (book.has(thing)) {
                 fail(WRONG_LETTER);
                 return;
             }
-            at++;
+            next();
             book.things |= 1 << thing;
-            int loan = number(1, NEVER_LEFT);
-            book.tellThing(thing, loan, number(0, THOUSAND - 1));
+            int loan = number(1, MOST_AMOUNT);
+            book.tellThing(thing, loan, number(0, MOST_RUNS));
             int seen = 0;
             for (int extra = 0; extra < TAPE_BYTES && fault == 0; extra++) {
-                int kind = tokens.kindAt(at);
-                if (kind < LOST || kind > WORTH) {
+                int sort = kind;
+                if (sort < LOST || sort > WORTH) {
                     return;
                 }
-                if ((seen >> kind & 1) != 0) {
+                if ((seen >> sort & 1) != 0) {
                     fail(CLAUSE_TOO_MANY);
                     return;
                 }
-                seen |= 1 << kind;
-                at++;
-                readExtra(book, thing, kind);
+                seen |= 1 << sort;
+                next();
+                readExtra(book, thing, sort);
             }
         }
 
-        private void readExtra(Book book, int thing, int kind) {
-            if (kind == LOST) {
+        private void readExtra(Book book, int thing, int sort) {
+            if (thing < 0 || thing >= THINGS) {
+                return;
+            }
+            if (sort == LOST) {
                 book.lost[thing] = number(1, MOST_WEEKS);
-            } else if (kind == LENDS) {
-                book.lends[thing] = number(0, NEVER_LEFT);
-            } else if (kind == SELLS) {
-                book.sells[thing] = number(0, NEVER_LEFT);
+            } else if (sort == LENDS) {
+                book.lends[thing] = number(0, MOST_AMOUNT);
+            } else if (sort == SELLS) {
+                book.sells[thing] = number(0, MOST_AMOUNT);
             } else {
-                book.worth[thing] = number(0, NEVER_LEFT);
+                book.worth[thing] = number(0, MOST_AMOUNT);
             }
         }
 
         private void readSet(Book book) {
             int set = 0;
-            for (int i = 0; i < TAPE_BYTES && fault == 0 && tokens.kindAt(at) == LETTER; i++) {
-                int thing = tokens.valueAt(at);
+            for (int i = 0; i < TAPE_BYTES && fault == 0 && kind == LETTER; i++) {
+                int thing = value;
                 if (!book.has(thing) || (set >> thing & 1) != 0) {
                     fail(WRONG_LETTER);
                     return;
                 }
                 set |= 1 << thing;
-                at++;
+                next();
             }
             if (set == 0) {
                 fail(MISPLACED);
                 return;
             }
             expect(EARNS);
-            int amount = number(0, NEVER_LEFT);
+            int amount = number(0, MOST_AMOUNT);
             book.sets.add(set, amount, readIf());
         }
 
         private void readNeed(Book book) {
-            int amount = number(0, NEVER_LEFT);
+            int amount = number(0, MOST_AMOUNT);
             book.needs.add(0, amount, readIf());
         }
 
         private void readCousin(Book book) {
-            book.cousinLends = number(0, NEVER_LEFT);
+            book.cousinLends = number(0, MOST_AMOUNT);
             expect(TILL);
             book.cousinWeek = number(1, MOST_WEEKS);
         }
@@ -1251,10 +1255,10 @@ public final class OutOfPawn {
 
         /** Where the test behind an 'if' starts; NONE without one. */
         private int readIf() {
-            if (fault != 0 || tokens.kindAt(at) != IF) {
+            if (fault != 0 || kind != IF) {
                 return NONE;
             }
-            at++;
+            next();
             int start = code.length;
             readTest(0);
             code.add(STOP, 0);
@@ -1268,33 +1272,36 @@ public final class OutOfPawn {
                     if (facts > 0) {
                         code.add(AND, 0);
                     }
-                    if (fault != 0 || tokens.kindAt(at) != AND) {
+                    if (fault != 0 || kind != AND) {
                         break;
                     }
-                    at++;
+                    next();
                 }
                 if (parts > 0) {
                     code.add(OR, 0);
                 }
-                if (fault != 0 || tokens.kindAt(at) != OR) {
+                if (fault != 0 || kind != OR) {
                     return;
                 }
-                at++;
+                next();
             }
         }
 
         private void readFact(int depth) {
-            int kind = tokens.kindAt(at);
-            if (kind != NOT && kind != OPEN) {
-                readComparison();
+            boolean isNot = kind == NOT;
+            if (!isNot && kind != OPEN) {
+                readSum();
+                int sign = readSign();
+                readSum();
+                code.add(sign, 0);
                 return;
             }
             if (depth >= MOST_DEPTH) {
                 fail(TOO_DEEP);
                 return;
             }
-            at++;
-            if (kind == NOT) {
+            next();
+            if (isNot) {
                 readFact(depth + 1);
                 code.add(NOT, 0);
             } else {
@@ -1303,105 +1310,87 @@ public final class OutOfPawn {
             }
         }
 
-        private void readComparison() {
-            readSum();
-            int sign = tokens.kindAt(at);
+        private int readSign() {
+            int sign = kind;
             if (sign < LESS || sign > MORE) {
                 fail(MISPLACED);
-                return;
+            } else if (pieces >= MOST_PIECES) {
+                fail(PIECE_TOO_MANY);
+            } else {
+                pieces++;
+                next();
             }
-            countPiece();
-            at++;
-            if (fault == 0) {
-                readSum();
-                code.add(sign, 0);
-            }
+            return sign;
         }
 
         private void readSum() {
             int joining = STOP;
-            for (int terms = 0; terms < TAPE_BYTES; terms++) {
-                readTerm();
-                if (joining != STOP) {
-                    code.add(joining, 0);
-                }
-                joining = tokens.kindAt(at);
-                if (fault != 0 || joining != PLUS && joining != MINUS) {
-                    return;
-                }
-                at++;
-            }
-        }
-
-        private void readTerm() {
-            int joining = STOP;
-            for (int values = 0; values < TAPE_BYTES; values++) {
+            for (int terms = 0; terms < TAPE_BYTES && fault == 0; terms++) {
                 readValue();
+                for (int values = 0; values < TAPE_BYTES && (kind == TIMES || kind == BY); values++) {
+                    int sign = kind;
+                    next();
+                    readValue();
+                    code.add(sign, 0);
+                }
                 if (joining != STOP) {
                     code.add(joining, 0);
                 }
-                joining = tokens.kindAt(at);
-                if (fault != 0 || joining != TIMES && joining != BY) {
+                if (kind != PLUS && kind != MINUS) {
                     return;
                 }
-                at++;
+                joining = kind;
+                next();
             }
         }
 
         private void readValue() {
-            int kind = tokens.kindAt(at);
             if (kind == LONG_NUMBER) {
                 fail(WRONG_NUMBER);
-            } else if (kind != NUMBER && !isValueWord(kind)) {
+            } else if (kind != NUMBER && !isValueWord()) {
                 fail(MISPLACED);
+            } else if (pieces >= MOST_PIECES) {
+                fail(PIECE_TOO_MANY);
             } else {
-                countPiece();
-                code.add(kind == NUMBER ? NUMBER : WORD_VALUE, kind == NUMBER ? tokens.valueAt(at) : kind);
-                at++;
+                pieces++;
+                code.add(kind == NUMBER ? NUMBER : WORD_VALUE, kind == NUMBER ? value : kind);
+                next();
             }
         }
 
-        private boolean isValueWord(int kind) {
+        private boolean isValueWord() {
             if (kind == WEEK || kind == HOME || kind == IN) {
                 return true;
             }
             return ofRule && (kind >= OWED && kind <= ADDS || kind == WORTH || kind == COIN);
         }
 
-        private void countPiece() {
-            pieces++;
-            if (pieces > MOST_PIECES) {
-                fail(PIECE_TOO_MANY);
-            }
-        }
-
         private int number(int least, int most) {
-            int kind = tokens.kindAt(at);
-            int value = tokens.valueAt(at);
+            int number = value;
             if (kind != NUMBER && kind != LONG_NUMBER) {
                 fail(MISPLACED);
                 return least;
             }
-            if (kind == LONG_NUMBER || value < least || value > most) {
+            if (kind == LONG_NUMBER || number < least || number > most) {
                 fail(WRONG_NUMBER);
                 return least;
             }
-            at++;
-            return value;
+            next();
+            return number;
         }
 
-        private void expect(int kind) {
-            if (tokens.kindAt(at) == kind) {
-                at++;
+        private void expect(int due) {
+            if (kind == due) {
+                next();
             } else {
                 fail(MISPLACED);
             }
         }
 
         /** The first fault stays: what is read behind it only comes to its end. */
-        private void fail(int kind) {
+        private void fail(int sort) {
             if (fault == 0) {
-                fault = 1 + 8 * tokens.placeAt(at) + kind;
+                fault = 1 + 8 * place + sort;
             }
         }
     }
@@ -1646,15 +1635,14 @@ public final class OutOfPawn {
             asking.words[OWED] = owedNow(thing, week);
             asking.words[RUNS] = runs[thing];
             asking.words[LEFT] = book.lost[thing] == NONE ? NEVER_LEFT : book.lost[thing] - week;
-            asking.words[ADDS] = rule.code.asks(ADDS) ? added(thing, week, in) : 0;
             asking.words[WORTH] = book.worth[thing];
             asking.words[COIN] = coin;
+            if (rule.code.asks(ADDS)) {
+                int bit = 1 << thing;
+                int earned = book.earnings(scene, week, home, in);
+                asking.words[ADDS] = book.earnings(scene, week, home | bit, in & ~bit) - earned;
+            }
             return rule.valueIn(asking);
-        }
-
-        private int added(int thing, int week, int in) {
-            int bit = 1 << thing;
-            return book.earnings(scene, week, home | bit, in & ~bit) - book.earnings(scene, week, home, in);
         }
     }
 
@@ -1696,7 +1684,6 @@ public final class OutOfPawn {
         private final int[] coins;
         private final int[] gains;
         private final int[] gainsOneLess;
-        private boolean oneLessReady;
         private final int[] line;
         private final int[] fork;
         private final int[] earning;
@@ -1720,7 +1707,9 @@ public final class OutOfPawn {
                 return;
             }
             fillGains(gains, 0);
-            oneLessReady = false;
+            if (book.code.asks(IN)) {
+                fillGains(gainsOneLess, 1);
+            }
             start(line, 0, book.coin);
             states = 0;
             everHome = 0;
@@ -1909,14 +1898,7 @@ public final class OutOfPawn {
 
         /** The gains of a week when a thing is gone that else would be in, or lost by then. */
         private int[] gainsWithout(int thing, int week) {
-            if (book.isLost(thing, week) || !book.code.asks(IN)) {
-                return gains;
-            }
-            if (!oneLessReady) {
-                fillGains(gainsOneLess, 1);
-                oneLessReady = true;
-            }
-            return gainsOneLess;
+            return book.isLost(thing, week) || !book.code.asks(IN) ? gains : gainsOneLess;
         }
 
         int hanging(int thing) {

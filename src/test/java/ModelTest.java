@@ -424,6 +424,9 @@ public final class ModelTest {
         for (int i = 0; i < 40 * times && Check.allWell(); i++) {
             test.compareAll(3 + test.any(3), 5 + test.any(4));
         }
+        for (int i = 0; i < 6 * times && Check.allWell(); i++) {
+            test.compareAll(test.any(3), 30 + test.any(31));
+        }
         for (int i = 0; i < 20000 * times && Check.allWell(); i++) {
             test.compareFaults();
         }
