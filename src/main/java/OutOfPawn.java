@@ -1785,9 +1785,10 @@ public final class OutOfPawn {
                     fetchAnywhere(at, 1 << thing, book.firstOwed(thing, week));
                 }
             }
-            for (int set = 0; set <= book.things && set < SETS; set++) {
-                if (at[set] >= 0 && week < MOST_WEEKS) {
-                    at[set] = Math.max(NONE, at[set] + gain[week * SETS + set]);
+            int from = week * SETS;
+            for (int set = 0; set <= book.things && set < SETS && from + set < gain.length; set++) {
+                if (at[set] >= 0) {
+                    at[set] = Math.max(NONE, at[set] + gain[from + set]);
                 }
             }
         }
@@ -1956,17 +1957,9 @@ public final class OutOfPawn {
             return mostIn(line);
         }
 
+        /** Coin that comes earlier is never worse: of the weeks ahead of the cousin's the first is best. */
         int borrowingWeek() {
-            int when = NONE;
-            int highest = most;
-            for (int week = 0; week < book.cousinWeek; week++) {
-                int coin = bestBorrowing(week);
-                if (coin > highest) {
-                    highest = coin;
-                    when = week;
-                }
-            }
-            return when;
+            return bestBorrowing(0) > most ? 0 : NONE;
         }
 
         int bestSelling(int thing, int week) {

@@ -4,6 +4,8 @@ import java.util.TreeSet;
 
 /** Made-up books, rows and rules: the class against the plain and slow model of the document. */
 public final class ModelTest {
+    /** Reads one book after the other, so that what is left of the last one would show. */
+    private final OutOfPawn worn = new OutOfPawn();
     private long seed;
 
     private ModelTest(long seed) {
@@ -370,6 +372,9 @@ public final class ModelTest {
         compareRules(text, x, b, rules);
         compareSets(text, x, b, rules);
         comparePlans(text, x, b);
+        Check.due(text + " book again", Check.book(worn, text), b.things.size());
+        compareRow(text + " (worn)", worn, b, new int[0][]);
+        comparePlans(text + " (worn)", worn, b);
         if (weeks <= 6) {
             compareChances(text, x, b, row, rules);
         }
