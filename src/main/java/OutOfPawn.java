@@ -116,7 +116,9 @@ public final class OutOfPawn {
     private final boolean[] imageMade;
     private final Scene scene;
     private final Life life;
-    private Plans plans;
+    private final Plans plans;
+    private final Draws draws;
+    private final int[] otherWeeks;
 
     public OutOfPawn() {
         tape = new int[TAPE_BYTES];
@@ -137,6 +139,9 @@ public final class OutOfPawn {
         imageMade = new boolean[MOST_IMAGES];
         scene = new Scene();
         life = new Life(book, scene);
+        plans = new Plans(book, scene);
+        draws = new Draws();
+        otherWeeks = new int[THINGS];
     }
 
     // ---- the tape, the book and the rules ----
@@ -178,7 +183,7 @@ public final class OutOfPawn {
         }
         book.take(spareBook);
         acts.count = 0;
-        forgetPlans();
+        plans.ready = false;
         return Integer.bitCount(book.things);
     }
 
@@ -294,17 +299,8 @@ public final class OutOfPawn {
     // ---- plans ----
 
     private Plans readyPlans() {
-        if (plans == null) {
-            plans = new Plans(book, scene);
-        }
         plans.prepare();
         return plans;
-    }
-
-    private void forgetPlans() {
-        if (plans != null) {
-            plans.ready = false;
-        }
     }
 
     private static int orLacking(int coin) {
@@ -441,11 +437,11 @@ public final class OutOfPawn {
             return NONE;
         }
         life.liveByRule(rules[one], ALWAYS_WORK);
-        int[] weeks = life.fetchWeek.clone();
+        System.arraycopy(life.fetchWeek, 0, otherWeeks, 0, THINGS);
         life.liveByRule(rules[other], ALWAYS_WORK);
         int parts = 0;
         for (int thing = 0; thing < THINGS; thing++) {
-            if (weeks[thing] != life.fetchWeek[thing]) {
+            if (otherWeeks[thing] != life.fetchWeek[thing]) {
                 parts++;
             }
         }
@@ -458,7 +454,7 @@ public final class OutOfPawn {
         if (!isDrawable(seed, n)) {
             return NONE;
         }
-        Draws draws = new Draws(seed);
+        draws.seed = seed;
         int times = 0;
         for (int i = 0; i < n; i++) {
             life.liveByRow(acts, draws.work(book.weeks, book.luck));
@@ -473,7 +469,7 @@ public final class OutOfPawn {
         if (!isRule(rule) || !isDrawable(seed, n)) {
             return NONE;
         }
-        Draws draws = new Draws(seed);
+        draws.seed = seed;
         int times = 0;
         for (int i = 0; i < n; i++) {
             life.liveByRule(rules[rule], draws.work(book.weeks, book.luck));
@@ -586,7 +582,7 @@ public final class OutOfPawn {
         }
         book.take(imageBooks[k]);
         acts.take(imageRows[k]);
-        forgetPlans();
+        plans.ready = false;
         return acts.count;
     }
 
@@ -1648,11 +1644,7 @@ public final class OutOfPawn {
 
     /** The weeks in which there is work, drawn anew each time. */
     static final class Draws {
-        private long seed;
-
-        Draws(int first) {
-            seed = first;
-        }
+        long seed;
 
         long work(int weeks, int luck) {
             long work = 0L;
