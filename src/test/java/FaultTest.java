@@ -3,26 +3,20 @@ public final class FaultTest {
     private FaultTest() {
     }
 
-    private static int dueOf(String marked, int kind) {
-        return -2 - (1 + 8 * marked.indexOf('^') + kind);
-    }
-
     private static void book(String marked, int kind) {
-        String text = marked.replace("^", "");
-        Check.due("book " + text, Check.book(new OutOfPawn(), text), dueOf(marked, kind));
+        Check.bookFault(marked, kind);
     }
 
     private static void rule(String marked, int kind) {
-        String text = marked.replace("^", "");
-        Check.due("rule " + text, Check.rule(new OutOfPawn(), text), dueOf(marked, kind));
+        Check.ruleFault(marked, kind);
     }
 
     private static void fine(String text) {
-        Check.due("book " + text, Check.book(new OutOfPawn(), text) >= 0, true);
+        Check.fineBook(text);
     }
 
     private static void fineRule(String text) {
-        Check.due("rule " + text, Check.rule(new OutOfPawn(), text), 0);
+        Check.fineRule(text);
     }
 
     private static void misplaced() {

@@ -17,13 +17,7 @@ public final class PromiseTest {
     }
 
     private static OutOfPawn with(String book, String... rules) {
-        OutOfPawn x = Check.withBook(book);
-        for (String rule : rules) {
-            if (Check.rule(x, rule) < 0) {
-                throw new IllegalArgumentException("the test's own rule has a fault: " + rule);
-            }
-        }
-        return x;
+        return Check.with(book, rules);
     }
 
     private static void p1NewObject() {
