@@ -112,6 +112,7 @@ final class CallEdges {
 
     @Edge(promise = 3, says = "The TAPE has its first n bytes alone: n;", broken = {
         "tapeLength = n;\n        return n;", "return n;",
+        "for (int i = place; i < length && i < text.length; i++) {", "for (int i = place; i < text.length; i++) {",
         "n < 0 || n > tapeLength", "n <= 0 || n > tapeLength",
         "n < 0 || n > tapeLength", "n < 0 || n >= tapeLength"})
     static void firstBytesAlone() {
@@ -129,6 +130,13 @@ final class CallEdges {
         due("none of some", x.end(0), 0);
         due("it is empty", x.count(10), 0);
         due("nothing to read", x.book(), -2 - 1);
+        Check.tape(x, "coin 555");
+        x.end(6);
+        due("a number ends with them", x.book(), 0);
+        due("of one digit", x.count(2), 5);
+        Check.tape(x, "coin 5;weeks 3");
+        x.end(9);
+        due("a word ends with them", x.book(), -2 - (1 + 8 * 7));
     }
 
     @Edge(promise = 3, says = "NONE, and nothing happens, if it has not so many, or n is below 0.", broken = {
@@ -169,9 +177,15 @@ final class CallEdges {
         "                lends[thing] = 0;\n", "",
         "                sells[thing] = 0;\n", "",
         "                worth[thing] = 0;\n", "",
+        "            pieces = 0;\n", "",
+        "            length = 0;\n            asked = 0;", "            asked = 0;",
         "acts.count = 0;\n        plans.ready = false;", "acts.count = 0;"})
     static void aBookInPlaceOfAnother() {
         OutOfPawn x = new OutOfPawn();
+        for (int i = 0; i < 8; i++) {
+            due("of 60 values and facts", Check.book(x, "needs 1 if 1=1" + " and 1=1".repeat(19)), 0);
+            due("its test holds", x.earned(0, 0, 1), 1);
+        }
         due("two things", Check.book(x, ALL_TOLD), 2);
         counts("all told", x, 129, 5, 9, 500, 8, 3, 2, 1, 0, 0, 0);
         Check.act(x, 0, 0, 0, 4, 4, 0);
@@ -218,9 +232,13 @@ final class CallEdges {
         "rules[ruleCount]);\n        tapeLength = 0;", "rules[ruleCount]);",
         "return ruleCount - 1;", "return ruleCount;",
         "            count = 0;\n            keep = 0;", "            keep = 0;",
-        "            count = 0;\n            keep = 0;", "            count = 0;"})
+        "            count = 0;\n            keep = 0;", "            count = 0;",
+        "            length = 0;\n            asked = 0;", "            asked = 0;"})
     static void aRule() {
         OutOfPawn x = with("thing a 1 0;coin 9");
+        for (int i = 0; i < 8; i++) {
+            due("a fault at the end of 60 values", Check.rule(x, "like 1" + "+1".repeat(59) + ";") < -2, true);
+        }
         for (int i = 0; i < 6; i++) {
             due("after a fault, the same number", Check.rule(x, "keep 99;like 5 if 1=2;like") < -2, true);
             due("rule " + i, Check.rule(x, "like " + (i + 1)), i);
@@ -386,6 +404,7 @@ final class CallEdges {
 
     @Edge(promise = 9, says = "What 0: EARNED, 1: NEED with a set of THINGS (that there are) HOME and all others IN, in a WEEK (0 to 60);", broken = {
         "return book.earnings(scene, week, set, book.things & ~set);\n        }\n        return what", "return book.earnings(scene, week, set, book.things & ~set & ~book.lostBy(week));\n        }\n        return what",
+        "return book.earnings(scene, week, set, book.things & ~set);\n        }\n        return what", "return book.earnings(scene, week, set, book.things & set);\n        }\n        return what",
         "what == 1 ? book.needing(scene, week, set, book.things & ~set) : NONE", "what == 1 ? book.needing(scene, week, set, book.things) : NONE",
         "!book.hasAll(set) || !isTellable(week)) {\n            return NONE;\n        }\n        if (what == 0)", "!book.hasAll(set) || week < 0 || week >= book.weeks) {\n            return NONE;\n        }\n        if (what == 0)",
         "!book.hasAll(set) || !isTellable(week)) {\n            return NONE;\n        }\n        if (what == 0)", "set == 0 || !book.hasAll(set) || !isTellable(week)) {\n            return NONE;\n        }\n        if (what == 0)"})
@@ -399,6 +418,9 @@ final class CallEdges {
         due("all home in week 60", x.earned(129, 60, 0), 16);
         due("need in week 60", x.earned(129, 60, 1), 15);
         due("all home in week 59", x.earned(129, 59, 0), 5);
+        OutOfPawn many = with("thing a 1 0;thing b 1 0;thing c 1 0;set a earns 5 if in=2;needs 7 if in=2");
+        due("two are in", many.earned(1, 0, 0), 5);
+        due("two are in, need", many.earned(1, 0, 1), 7);
         due("without a book", new OutOfPawn().earned(0, 60, 0), 0);
         due("need without a book", new OutOfPawn().earned(0, 60, 1), 0);
     }
@@ -679,10 +701,15 @@ final class CallEdges {
 
     @Edge(promise = 16, says = "-2: there is none;", broken = {
         "all.most < 0 ? LACKING : all.fetchWeek[thing]", "all.fetchWeek[thing]",
+        "all.most < 0 ? LACKING : all.fetchWeek[thing]", "all.most <= 0 ? LACKING : all.fetchWeek[thing]",
+        "            if (most < 0) {\n                return;", "            if (most <= 0) {\n                return;",
         "all.most < 0 ? LACKING : all.fetchWeek[thing]", "all.most < 0 ? NO_SUCH : all.fetchWeek[thing]"})
     static void fetchedWithoutPlan() {
         due("broke in the last week", with(NO_PLAN).fetched(0), -2);
         due("broke at once", with("thing h 1 0;needs 1").fetched(7), -2);
+        OutOfPawn x = with("thing a 1 0;thing b 1 0;set a earns 1;needs 1;coin 1;weeks 3");
+        due("no coin at the end is a plan", x.fetched(0), 0);
+        due("and the other is not fetched", x.fetched(1), -1);
     }
 
     @Edge(promise = 16, says = "-3 without it.", broken = {

@@ -216,6 +216,7 @@ final class ChanceEdges {
 
     @Edge(promise = 30, says = "SURELY, for 10 WEEKS and fewer: of all ways in which work can come or not: 1000000000 times luck, or 1000 less luck, by 1000, downwards each, WEEK by WEEK: of those in which the ROW HOLDS, together.", broken = {
         "SURE = 1000000000;", "SURE = 100000000;",
+        "            if (chance > 0) {\n", "            if (chance > 1) {\n",
         "chance = chance * part / THOUSAND;", "chance = (chance * part + THOUSAND - 1) / THOUSAND;",
         "for (int week = 0; week < book.weeks; week++) {\n            int part", "for (int week = book.weeks - 1; week >= 0; week--) {\n            int part",
         "(work >> week & 1) != 0 ? book.luck : THOUSAND - book.luck;", "(work >> week & 1) == 0 ? book.luck : THOUSAND - book.luck;",
@@ -237,6 +238,7 @@ final class ChanceEdges {
         x = with("thing a 5 0;set a earns 5 if week=0;needs 5 if week=0;coin 5;weeks 5;luck 777");
         x.act(0, 0, 0);
         due("week by week", x.surely(), 776999988);
+        due("one way in the last thousandth", with("weeks 3;luck 1").surely(), 1000000000);
         due("never work", with("weeks 10;luck 0").surely(), 1000000000);
         due("always work", with("weeks 10").surely(), 1000000000);
         x = with("thing a 1 0;set a earns 1;needs 1;coin 1;weeks 1;luck 0");

@@ -22,6 +22,8 @@ final class PlanEdges {
     @Edge(promise = 15, says = "PLANS: in each WEEK any THINGS IN are FETCHED (no other ACTS), with work in each WEEK, never BROKE.", broken = {
         "int in = book.things & ~book.lostBy(week) & ~barred;", "int in = book.things & ~barred;",
         "at[set] >= owed) {", "at[set] > owed) {",
+        "for (int home = 0; home <= THINGS; home++) {", "for (int home = 0; home < THINGS; home++) {",
+        "for (int in = 0; in + home <= THINGS; in++) {", "for (int in = 0; in + home < THINGS; in++) {",
         "at[set] = Math.max(NONE, at[set] + gain[from + set]);", "at[set] = Math.max(0, at[set] + gain[from + set]);",
         "at[set] = Math.max(NONE, at[set] + gain[from + set]);", "at[set] = at[set] + gain[from + set] <= 0 ? NONE : at[set] + gain[from + set];",
         "                            - book.needs.together(needing[at], set);", "                            - 0 * book.needs.together(needing[at], set);",
@@ -39,6 +41,9 @@ final class PlanEdges {
         due("broke in the last of 60", best("needs 1;coin 59;weeks 60"), -2);
         due("not broke in 60", best("needs 1;coin 60;weeks 60"), 0);
         due("the need of what is earned", best("thing a 1 0;set a earns 1;needs 1;coin 1;weeks 3"), 0);
+        String eight = "thing a 1 0;thing b 1 0;thing c 1 0;thing d 1 0;thing e 1 0;thing f 1 0;thing g 1 0;thing h 1 0;";
+        due("eight home", best(eight + "set a b c d e f g h earns 5 if home=8 and in=0;coin 10;weeks 2"), 12);
+        due("eight in", best(eight.replace(" 1 0", " 99 0") + "needs 1 if in=8 and home=0;coin 5;weeks 2"), 3);
         due("what is lost is in no more", best("thing a 9 0 lost 1;needs 1 if in=1;coin 3;weeks 3"), 2);
     }
 
@@ -60,6 +65,7 @@ final class PlanEdges {
         "                if (line[set] >= 0 && line[set] == most) {\n                    return set;", "                if (line[SETS - 1 - set] >= 0 && line[SETS - 1 - set] == most) {\n                    return SETS - 1 - set;",
         "                most = Math.max(most, at[set]);", "                most = at[set] >= 0 ? at[set] : most;",
         "                most = Math.max(most, at[set]);", "                most = set > 0 ? Math.max(most, at[set]) : most;",
+        "                if (line[set] >= 0 && line[set] == most) {\n                    return set;", "                if (line[set] > 0 && line[set] == most) {\n                    return set;",
         "                if (line[set] >= 0 && line[set] == most) {\n                    return set;", "                if (set > 0 && line[set] >= 0 && line[set] == most) {\n                    return set;"})
     static void bestAndEnd() {
         OutOfPawn x = with("thing a 2 0;thing b 2 0;set a earns 1;set b earns 1;coin 3;weeks 2");
@@ -74,6 +80,7 @@ final class PlanEdges {
         x = with("thing a 2 0;thing h 2 0;set h earns 3;coin 2;weeks 1");
         due("h alone", x.best(1), 128);
         due("no coin at the end", with("needs 1;coin 12").best(0), 0);
+        due("no coin at the end but with a", with("thing a 1 0;set a earns 1;needs 1;coin 1;weeks 3").best(1), 1);
     }
 
     @Edge(promise = 15, says = "RICHEST: the most of coin and what THINGS are worth that are HOME, together.", broken = {
@@ -187,6 +194,7 @@ final class PlanEdges {
         "return most - Math.max(0, mostIn(line));", "return Math.max(0, most - Math.max(0, mostIn(line)));",
         "                pass(line, week, 1 << thing, gainsWithout(thing, week));\n            }\n            return most", "                pass(line, week, 1 << thing, gains);\n            }\n            return most",
         "                pass(line, week, 1 << thing, gainsWithout(thing, week));\n            }\n            return most", "                pass(line, week, 0, gainsWithout(thing, week));\n            }\n            return most",
+        "                asked |= 1 << number;", "                asked = 1 << number;",
         "return book.isLost(thing, week) || !book.code.asks(IN) ? gains : gainsOneLess;", "return !book.code.asks(IN) ? gains : gainsOneLess;",
         "if (book.code.asks(IN)) {\n                fillGains(gainsOneLess, 1);", "if (book.code.asks(HOME)) {\n                fillGains(gainsOneLess, 1);"})
     static void hangs() {
@@ -195,6 +203,7 @@ final class PlanEdges {
         due("c", with(SHOP).hangs(2), 3);
         due("no plan then: all", with("thing a 1 0;set a earns 3;needs 2;coin 3;weeks 4").hangs(0), 6);
         due("below 0: it is not in then", with("thing a 9 0;needs 1 if in>0;coin 4;weeks 4").hangs(0), -4);
+        due("asked of in, and of others behind it", with("thing a 9 0;needs 1 if in>0 and home=0 and week<9;coin 4;weeks 4").hangs(0), -4);
         due("a lost one is not in any more as it is", with("thing a 9 0 lost 1;thing b 9 0;needs 1 if in=1;coin 4;weeks 2").hangs(0), 1);
         due("the last of 60 weeks", with("thing h 1 0;set h earns 9 if week=59;coin 1;weeks 60").hangs(7), 8);
     }

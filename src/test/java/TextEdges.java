@@ -63,6 +63,7 @@ final class TextEdges {
     @Edge(promise = 4, says = "A BOOK is a text of at most 400 bytes: CLAUSE { ; CLAUSE }, 24 at most.", broken = {
         "TAPE_BYTES = 400;", "TAPE_BYTES = 380;",
         "TAPE_BYTES = 400;", "TAPE_BYTES = 420;",
+        "kinds = new int[TAPE_BYTES + 1];", "kinds = new int[TAPE_BYTES];",
         "BOOK_CLAUSES = 24;", "BOOK_CLAUSES = 23;",
         "BOOK_CLAUSES = 24;", "BOOK_CLAUSES = 25;",
         "            expect(SEMICOLON);\n            return false;", "            next();\n            return kind == END;",
@@ -71,6 +72,8 @@ final class TextEdges {
         fine("coin 5" + " ".repeat(394));
         book("coin 5" + " ".repeat(393) + "^!", 0);
         book("coin 5;" + " ".repeat(393) + "^", 0);
+        book("^" + ";".repeat(400), 0);
+        book("needs 1 if " + "[".repeat(10) + "^" + "[".repeat(379), 2);
         OutOfPawn x = new OutOfPawn();
         Check.tape(x, "coin 5" + " ".repeat(394));
         due("a byte more", x.feed(0, 0, 0, 0, 0), -1);
@@ -564,6 +567,9 @@ final class TextEdges {
         "case MORE: return a > b ? 1L : 0L;", "case MORE: return a >= b ? 1L : 0L;",
         "                        stack[depth - 1] = 1L - stack[depth - 1];\n", "",
         "                readFact(depth + 1);\n                code.add(NOT, 0);", "                readTest(depth + 1);\n                code.add(NOT, 0);",
+        "case AT_MOST: return a <= b ? 1L : 0L;", "case AT_MOST: return a <= b ? 2L : 0L;",
+        "case AT_LEAST: return a >= b ? 1L : 0L;", "case AT_LEAST: return a >= b ? 2L : 0L;",
+        "                if (parts > 0) {\n", "                if (parts >= 0) {\n",
         "                expect(CLOSE);\n", ""})
     static void facts() {
         String[] signs = {"<", "<=", "=", ">=", ">"};
@@ -578,7 +584,16 @@ final class TextEdges {
         due("not of one fact alone, or", holds("not 1=1 or 1=1"), true);
         due("not of a test", holds("not [1=2 and 1=2]"), true);
         due("not not", holds("not not 1=1"), true);
+        for (int i = 0; i < 5; i++) {
+            String one = (i < 2 ? "4" : i == 2 ? "5" : "6") + signs[i] + "5";
+            due("two that hold: " + one, holds(one + " and " + one + " and 1=1"), true);
+            due("not one that holds: " + one, holds("not " + one), false);
+            due("not not one that holds: " + one, holds("not [not " + one + "]"), true);
+        }
         due("brackets", holds("[1=1 or 1=1] and 1=2"), false);
+        due("brackets behind", holds("1=1 and [1=2]"), false);
+        due("brackets behind or", holds("1=2 or [1=1 and 1=2]"), false);
+        due("brackets in brackets behind", holds("1=1 and [1=1 and [1=2]]"), false);
         due("brackets in brackets", holds("[[1=2]or[1=1]]"), true);
         book("needs 1 if not^", 0);
         book("needs 1 if [^]", 0);
@@ -694,6 +709,8 @@ final class TextEdges {
         "book.earnings(scene, week, home | bit, in & ~bit) - earned;", "book.earnings(scene, week, home | bit, in) - earned;",
         "book.earnings(scene, week, home | bit, in & ~bit) - earned;", "Math.max(0, book.earnings(scene, week, home | bit, in & ~bit) - earned);",
         "book.earnings(scene, week, home | bit, in & ~bit) - earned;", "book.earnings(scene, week, home | bit, in & ~bit);",
+        "book.earnings(scene, week, home | bit, in & ~bit) - earned;", "book.earnings(scene, week, home | bit, in & bit) - earned;",
+        "                asked |= 1 << number;", "                asked = 1 << number;",
         "asking.words[WORTH] = book.worth[thing];", "asking.words[WORTH] = book.sells[thing];",
         "asking.words[COIN] = coin;", "asking.words[COIN] = book.coin;"})
     static void wordsOfARule() {
@@ -711,6 +728,10 @@ final class TextEdges {
         due("adds what it earns with another", x.likes(2, 1, 0, 1, 0), 4);
         due("adds nothing", x.likes(2, 1, 0, 0, 0), 0);
         due("takes away", x.likes(2, 1, 0, 128, 0), -9);
+        OutOfPawn four = with("thing a 1 0;thing b 1 0;thing c 1 0;thing d 1 0;set a earns 7 if in=2;set a b earns 5 if in=3", "like adds+0*week", "like 0*week+adds");
+        due("adds by how many others are in then", four.likes(0, 0, 0, 2, 0), 7);
+        due("adds, the last word", four.likes(1, 0, 0, 4, 0), 7);
+        due("adds by how many are in then, not ahead of it", four.likes(0, 1, 0, 1, 0), 7);
         due("worth, most", x.likes(3, 0, 0, 0, 0), 9999);
         due("worth, none told", x.likes(3, 1, 0, 0, 0), 0);
         due("week and coin", x.likes(4, 1, 59, 0, 999), 59999);

@@ -247,6 +247,10 @@ final class WeekEdges {
         "if (coin < half) {", "if (coin <= half) {",
         "if (coin < half) {", "if (coin < owed) {",
         "            halved |= 1 << thing;\n", "",
+        "            halved |= 1 << thing;\n", "            halved = 1 << thing;\n",
+        "            halved &= ~(1 << thing);\n", "            halved = ~(1 << thing);\n",
+        "            halved &= ~(1 << thing);\n", "            halved = 0;\n",
+        "runs[thing] = runs[thing] / 2;", "runs[thing] = runs[thing] / 3;",
         "!isIn(thing) || (halved >> thing & 1) != 0", "!isIn(thing) || halved != 0",
         "            loan[thing] = owed - half;\n", "            loan[thing] = half;\n",
         "            loan[thing] = owed - half;\n", "            loan[thing] = loan[thing] / 2;\n",
@@ -277,6 +281,10 @@ final class WeekEdges {
         judged("all of 1, it runs by nothing", row(book, 0, HALVE, 1, 7, FETCH, 1), -1, -1, 39, 2, 0);
         judged("once for each thing", row(book, 0, HALVE, 0, 0, HALVE, 1), -1, -1, 33, 0, 0);
         judged("not twice", row(book, 0, HALVE, 0, 7, HALVE, 0), 1, -1, 34, 0, 0);
+        judged("not twice, another between", row(book, 0, HALVE, 0, 0, HALVE, 1, 0, HALVE, 0), 2, -1, 33, 0, 0);
+        judged("another was put in", row(book, 0, FETCH, 1, 0, PUT, 1, 0, HALVE, 0), -1, -1, 33, 0, 0);
+        judged("another was put in between", row(book, 0, FETCH, 1, 0, HALVE, 0, 0, PUT, 1, 0, HALVE, 0), 3, -1, 33, 0, 0);
+        judged("it runs by 4 of 9", row("thing a 10 9;coin 40;weeks 3", 0, HALVE, 0, 2, FETCH, 0), -1, -1, 22, 1, 0);
         judged("coin as the half", row("thing a 11 3;coin 6", 0, HALVE, 0), -1, -1, 0, 0, 0);
         judged("coin one short of the half", row("thing a 11 3;coin 5", 0, HALVE, 0), 0, -1, 5, 0, 0);
         judged("half of nothing", row("thing a 1 0;coin 1", 0, FETCH, 0, 0, PUT, 0, 0, HALVE, 0), -1, -1, 0, 0, 0);
