@@ -6,102 +6,20 @@ import java.util.TreeSet;
 public final class ModelTest {
     /** Reads one book after the other, so that what is left of the last one would show. */
     private final OutOfPawn worn = new OutOfPawn();
-    private long seed;
+    private final MadeUp made;
 
     private ModelTest(long seed) {
-        this.seed = seed;
-    }
-
-    private int any(int below) {
-        seed = seed * 6364136223846793005L + 1442695040888963407L;
-        return (int) ((seed >>> 33) % below);
-    }
-
-    private String oneOf(String... words) {
-        return words[any(words.length)];
-    }
-
-    private String value(boolean ofRule) {
-        if (any(3) == 0) {
-            return String.valueOf(any(any(8) == 0 ? 100000 : 6));
-        }
-        return ofRule ? oneOf("owed", "runs", "left", "adds", "worth", "week", "coin", "home", "in") : oneOf("week", "home", "in");
-    }
-
-    private String sum(boolean ofRule) {
-        StringBuilder s = new StringBuilder(value(ofRule));
-        for (int i = any(4); i > 1; i--) {
-            s.append(oneOf("+", " - ", "*", " /")).append(value(ofRule));
-        }
-        return s.toString();
-    }
-
-    private String test(boolean ofRule, int depth) {
-        int kind = any(depth > 2 ? 3 : 7);
-        if (kind < 3) {
-            return sum(ofRule) + oneOf("<", " <= ", "=", ">= ", " >") + sum(ofRule);
-        }
-        if (kind == 3) {
-            return "not " + test(ofRule, depth + 1);
-        }
-        if (kind == 4) {
-            return "[" + test(ofRule, depth + 1) + oneOf("]", " ]");
-        }
-        return test(ofRule, depth + 1) + (kind == 5 ? " and " : " or ") + test(ofRule, depth + 1);
-    }
-
-    private String maybeTest(boolean ofRule) {
-        return any(2) == 0 ? "" : " if " + test(ofRule, 0);
-    }
-
-    private String bookText(int things, int weeks) {
-        StringBuilder s = new StringBuilder();
-        String letters = "";
-        for (int i = 0; i < 8 && letters.length() < things; i++) {
-            if (any(8) < things || 8 - i <= things - letters.length()) {
-                char letter = (char) ('a' + i);
-                letters += letter;
-                s.append("thing ").append(letter).append(' ').append(1 + any(20)).append(' ').append(any(4));
-                s.append(any(3) == 0 ? " lost " + (1 + any(weeks + 1)) : "");
-                s.append(any(3) == 0 ? " lends " + any(15) : "");
-                s.append(any(3) == 0 ? " sells " + any(25) : "");
-                s.append(any(3) == 0 ? " worth " + any(40) : "");
-                s.append(';');
-            }
-        }
-        for (int i = any(4); i > 0 && !letters.isEmpty(); i--) {
-            s.append("set");
-            int bits = 1 + any((1 << letters.length()) - 1);
-            for (int t = 0; t < letters.length(); t++) {
-                s.append((bits >> t & 1) != 0 ? " " + letters.charAt(t) : "");
-            }
-            s.append(" earns ").append(any(9)).append(maybeTest(false)).append(';');
-        }
-        for (int i = any(3); i > 0; i--) {
-            s.append("needs ").append(any(5)).append(maybeTest(false)).append(';');
-        }
-        s.append(any(2) == 0 ? "luck " + any(1001) + ";" : "");
-        s.append(any(2) == 0 ? "cousin " + any(25) + " till " + (1 + any(weeks)) + ";" : "");
-        s.append("coin ").append(any(40)).append("; weeks ").append(weeks);
-        return s.toString();
-    }
-
-    private String ruleText() {
-        StringBuilder s = new StringBuilder();
-        for (int i = 1 + any(3); i > 0; i--) {
-            s.append(s.length() > 0 ? ";" : "").append("like ").append(sum(true)).append(maybeTest(true));
-        }
-        return any(3) == 0 ? s + ";keep " + any(9) : s.toString();
+        made = new MadeUp(seed);
     }
 
     private int[][] actsFor(OutOfPawn x, Model.Book b) {
-        int[][] row = new int[any(7)][];
+        int[][] row = new int[made.any(7)][];
         int week = 0;
         int[] letters = b.things.keySet().stream().mapToInt(t -> t).toArray();
         for (int i = 0; i < row.length; i++) {
-            week = Math.min(60, week + (any(3) == 0 ? any(3) : 0));
-            int sort = letters.length == 0 ? 4 : any(5);
-            row[i] = new int[] {week, sort, sort == 4 ? 0 : letters[any(letters.length)]};
+            week = Math.min(60, week + (made.any(3) == 0 ? made.any(3) : 0));
+            int sort = letters.length == 0 ? 4 : made.any(5);
+            row[i] = new int[] {week, sort, sort == 4 ? 0 : letters[made.any(letters.length)]};
             Check.due("act", x.act(row[i][0], row[i][1], row[i][2]), i + 1);
         }
         return row;
@@ -232,8 +150,8 @@ public final class ModelTest {
     }
 
     private void compareChances(String text, OutOfPawn x, Model.Book b, int[][] row, List<Model.Rule> rules) {
-        int first = any(5) == 0 ? 2147483647 - any(3) : any(1000000);
-        int n = 1 + any(any(6) == 0 ? 100 : 10);
+        int first = made.any(5) == 0 ? 2147483647 - made.any(3) : made.any(1000000);
+        int n = 1 + made.any(made.any(6) == 0 ? 100 : 10);
         long[] drawn = {first};
         int holds = 0;
         int[] goes = new int[rules.size()];
@@ -292,8 +210,8 @@ public final class ModelTest {
 
     private void compareSets(String text, OutOfPawn x, Model.Book b, List<Model.Rule> rules) {
         for (int i = 0; i < 12; i++) {
-            int set = any(256) & b.all();
-            int week = any(61);
+            int set = made.any(256) & b.all();
+            int week = made.any(61);
             int in = b.all() & ~set;
             Check.due(text + " earned 0", x.earned(set, week, 0), b.sum(b.sets, week, set, in));
             Check.due(text + " earned 1", x.earned(set, week, 1), b.sum(b.needs, week, set, in));
@@ -304,8 +222,8 @@ public final class ModelTest {
                 if ((set >> t & 1) == 0) {
                     needed += b.owed(t, week);
                     lost |= b.lostBy(t, week);
-                    int now = any(b.weeks);
-                    int coin = any(50);
+                    int now = made.any(b.weeks);
+                    int coin = made.any(50);
                     for (int r = 0; r < rules.size(); r++) {
                         long likes = Model.likes(b, rules.get(r), t, now, set, in, coin);
                         Check.due(text + " likes", x.likes(r, t, now, set, coin), likes);
@@ -316,7 +234,7 @@ public final class ModelTest {
                 }
             }
             Check.due(text + " needed", x.needed(set, week), lost ? -2 : needed);
-            int n = any(9);
+            int n = made.any(9);
             int best = -1;
             int most = -1;
             for (int s = 0; s < 256; s++) {
@@ -343,7 +261,7 @@ public final class ModelTest {
     }
 
     private void compareAll(int things, int weeks) {
-        String text = bookText(things, weeks);
+        String text = made.bookText(things, weeks);
         if (text.length() > 400) {
             return;
         }
@@ -357,8 +275,8 @@ public final class ModelTest {
         }
         Check.due(text + " book", Check.book(x, text), b.things.size());
         List<Model.Rule> rules = new java.util.ArrayList<>();
-        for (int i = any(4); i > 0; i--) {
-            String rule = ruleText();
+        for (int i = made.any(4); i > 0; i--) {
+            String rule = made.ruleText();
             try {
                 Model.Rule r = Model.readRule(rule.substring(0, Math.min(400, rule.length())));
                 Check.due(rule, Check.rule(x, rule.substring(0, Math.min(400, rule.length()))), rules.size());
@@ -380,29 +298,9 @@ public final class ModelTest {
         }
     }
 
-    /** A text with some signs changed, dropped, doubled or added, so that its faults are met. */
-    private String mangled(String text) {
-        StringBuilder s = new StringBuilder(text);
-        String[] pieces = {";", " ", "[", "]", "not ", "and", " or ", "if", "<", "=", ">=", "9", "123456", "in", "week",
-            "a", "b", "thing a 1 1", "coin 5", "weeks 3", "lost 3", "sells 1", "*", "-", "keep 3", "like ", "\u00e9", "A"};
-        for (int i = any(3); i >= 0; i--) {
-            int at = any(s.length() + 1);
-            int kind = any(4);
-            if (kind == 0 && at < s.length()) {
-                s.deleteCharAt(at);
-            } else if (kind == 1) {
-                s.setLength(at);
-            } else {
-                s.insert(at, pieces[any(pieces.length)]);
-            }
-        }
-        s.setLength(Math.min(400, s.length()));
-        return s.toString();
-    }
-
     private void compareFaults() {
         OutOfPawn x = new OutOfPawn();
-        String text = mangled(bookText(any(5), 4));
+        String text = made.mangled(made.bookText(made.any(5), 4));
         int due;
         try {
             due = Model.readBook(text).things.size();
@@ -410,7 +308,7 @@ public final class ModelTest {
             due = -2 - f.number;
         }
         Check.due("book " + text, Check.book(x, text), due);
-        String rule = mangled(ruleText());
+        String rule = made.mangled(made.ruleText());
         try {
             Model.readRule(rule);
             due = 0;
@@ -424,13 +322,13 @@ public final class ModelTest {
         int times = args.length > 1 ? Integer.parseInt(args[1]) : 1;
         ModelTest test = new ModelTest(args.length > 2 ? Long.parseLong(args[2]) : 7);
         for (int i = 0; i < 600 * times && Check.allWell(); i++) {
-            test.compareAll(test.any(4), 1 + test.any(6));
+            test.compareAll(test.made.any(4), 1 + test.made.any(6));
         }
         for (int i = 0; i < 40 * times && Check.allWell(); i++) {
-            test.compareAll(3 + test.any(3), 5 + test.any(4));
+            test.compareAll(3 + test.made.any(3), 5 + test.made.any(4));
         }
         for (int i = 0; i < 6 * times && Check.allWell(); i++) {
-            test.compareAll(test.any(3), 30 + test.any(31));
+            test.compareAll(test.made.any(3), 30 + test.made.any(31));
         }
         for (int i = 0; i < 20000 * times && Check.allWell(); i++) {
             test.compareFaults();
